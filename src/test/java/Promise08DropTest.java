@@ -1,0 +1,79 @@
+/** Promise 8: drop. */
+public final class Promise08DropTest {
+    public static void main(String[] args) {
+        blocksGoAndStay();
+        onlyTheNamed();
+        missing();
+        checkpointsHold();
+        wrongInputs();
+        Due.end();
+    }
+
+    private static void blocksGoAndStay() {
+        CowContainer x = new CowContainer(8);
+        x.write(0, 0, 0, 1);
+        x.write(0, 0, 1, 2);
+        x.snapshot(0, 1);
+        x.write(0, 0, 0, 3);
+        x.snapshot(0, 2);
+        x.write(0, 0, 0, 4);
+        Due.same("used before", x.used(), 4);
+        Due.same("drop(0, 1)", x.drop(0, 1), 3);
+        Due.same("it is gone", x.read(0, 1, 0, 0), CowContainer.NONE);
+        Due.same("the other snapshot stays", x.read(0, 2, 0, 0), 3);
+        Due.same("the live tree stays", x.read(0, 0, 0, 0), 4);
+        Due.same("drop(0, 2)", x.drop(0, 2), 2);
+        Due.same("the live tree stays still", x.read(0, 0, 0, 1), 2);
+    }
+
+    private static void onlyTheNamed() {
+        for (int i = 0; i < 4; i++) {
+            CowContainer x = new CowContainer(8);
+            for (int j = 0; j < 4; j++) {
+                x.write(j / 2, 0, 0, j);
+                x.snapshot(j / 2, j % 2 + 1);
+            }
+            x.cut(0, 0, 0);
+            x.cut(1, 0, 0);
+            Due.same("drop of snapshot " + i, x.drop(i / 2, i % 2 + 1), 3);
+            for (int j = 0; j < 4; j++) {
+                Due.same("info(" + (4 + j) + ") after it", x.info(4 + j), i == j ? 0 : 1);
+                Due.same("read after it", x.read(j / 2, j % 2 + 1, 0, 0), i == j ? CowContainer.NONE : j);
+            }
+        }
+    }
+
+    private static void missing() {
+        CowContainer x = Due.filled(24);
+        Due.unchanged("drop(0, 2)", x, c -> c.drop(0, 2), CowContainer.MISSING);
+        Due.unchanged("drop(1, 1)", x, c -> c.drop(1, 1), CowContainer.MISSING);
+        Due.same("drop(0, 1)", x.drop(0, 1), 6);
+        Due.unchanged("drop(0, 1) again", x, c -> c.drop(0, 1), CowContainer.MISSING);
+    }
+
+    private static void checkpointsHold() {
+        CowContainer x = new CowContainer(8);
+        x.write(0, 0, 0, 1);
+        x.snapshot(0, 1);
+        x.cut(0, 0, 0);
+        x.sync(0);
+        Due.same("the newest checkpoint holds the block", x.drop(0, 1), 1);
+        x.sync(0);
+        Due.same("the previous checkpoint holds the block", x.used(), 1);
+        x.sync(0);
+        Due.same("nothing holds the block", x.used(), 0);
+    }
+
+    private static void wrongInputs() {
+        CowContainer x = Due.filled(24);
+        for (int volume : Due.NO_VOLUME) {
+            Due.refused("drop(" + volume + ", 1)", x, c -> c.drop(volume, 1));
+        }
+        for (int tree : Due.NO_SNAPSHOT_NAME) {
+            Due.refused("drop(0, " + tree + ")", x, c -> c.drop(0, tree));
+            Due.refused("drop(1, " + tree + ")", x, c -> c.drop(1, tree));
+        }
+        Due.refusedWhenDown("drop(0, 1)", c -> c.drop(0, 1));
+        Due.refusedWhenDown("drop(0, 2)", c -> c.drop(0, 2));
+    }
+}

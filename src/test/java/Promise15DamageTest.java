@@ -1,0 +1,70 @@
+/** Promise 15: damage. */
+public final class Promise15DamageTest {
+    public static void main(String[] args) {
+        int[] spots = {0, 1, -1, 99, Integer.MIN_VALUE, Integer.MAX_VALUE};
+        for (int spot : spots) {
+            fallsBack(spot);
+            refusedWhenUp(spot);
+        }
+        numbersAfterDamage();
+        Due.end();
+    }
+
+    private static void fallsBack(int spot) {
+        CowContainer x = new CowContainer(8);
+        x.write(0, 0, 0, 1);
+        x.snapshot(0, 1);
+        x.sync(0);
+        x.write(0, 0, 0, 2);
+        x.drop(0, 1);
+        x.snapshot(1, 2);
+        x.sync(0);
+        x.crash();
+        Due.same("damage(" + spot + ") with two", x.damage(spot), 1);
+        Due.same("still DOWN", x.info(0), 0);
+        Due.same("one is left", x.info(1), 1);
+        Due.same("the previous one is the newest", x.info(2), 1);
+        Due.same("mount", x.mount(), 1);
+        Due.same("its state", x.read(0, 0, 0, 0), 1);
+        Due.same("its snapshot", x.read(0, 1, 0, 0), 1);
+        Due.same("not the damaged one's snapshot", x.info(7), 0);
+        Due.same("not the damaged one's block", x.used(), 1);
+        x.crash();
+        Due.same("damage(" + spot + ") with one", x.damage(spot), 0);
+        Due.same("none is left", x.info(1), 0);
+        Due.same("no newest", x.info(2), 0);
+        Due.unchanged("damage(" + spot + ") with none", x, c -> c.damage(spot), CowContainer.MISSING);
+        Due.same("mount without a checkpoint", x.mount(), 0);
+        Due.holds("the empty state", Due.look(x).equals(Due.look(new CowContainer(8))));
+    }
+
+    private static void refusedWhenUp(int spot) {
+        CowContainer x = Due.filled(24);
+        Due.refused("damage(" + spot + ") when UP without a checkpoint", x, c -> c.damage(spot));
+        x.sync(0);
+        Due.refused("damage(" + spot + ") when UP", x, c -> c.damage(spot));
+        x.sync(0);
+        Due.refused("damage(" + spot + ") when UP with two", x, c -> c.damage(spot));
+        x.crash();
+        Due.same("the checkpoints are still there", x.mount(), 2);
+    }
+
+    private static void numbersAfterDamage() {
+        CowContainer x = new CowContainer(8);
+        x.sync(0);
+        x.sync(0);
+        x.sync(0);
+        x.crash();
+        x.damage(0);
+        Due.same("mount of 2", x.mount(), 2);
+        Due.same("3 is given again", x.sync(0), 3);
+        Due.same("two are there", x.info(1), 2);
+        x.crash();
+        Due.same("the first damage", x.damage(0), 1);
+        Due.same("the second damage", x.damage(0), 0);
+        Due.same("the third damage", x.damage(0), CowContainer.MISSING);
+        Due.same("mount without a checkpoint", x.mount(), 0);
+        Due.same("1 is given again", x.sync(0), 1);
+        Due.same("and it is the only one", x.info(1), 1);
+    }
+}

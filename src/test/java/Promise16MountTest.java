@@ -1,0 +1,63 @@
+/** Promise 16: mount. */
+public final class Promise16MountTest {
+    public static void main(String[] args) {
+        refusedWhenUp();
+        newest();
+        checkpointsStay();
+        empty();
+        Due.end();
+    }
+
+    private static void refusedWhenUp() {
+        CowContainer x = Due.filled(24);
+        Due.refused("mount() of a new object", x, c -> c.mount());
+        x.sync(0);
+        x.write(0, 0, 0, 5);
+        Due.refused("mount() with a checkpoint", x, c -> c.mount());
+        Due.same("the next number stays", x.sync(0), 2);
+        x.crash();
+        x.mount();
+        Due.refused("mount() twice", x, c -> c.mount());
+    }
+
+    private static void newest() {
+        CowContainer x = Due.filled(24);
+        x.sync(0);
+        x.write(1, 1, 1, 5);
+        x.drop(1, 2);
+        x.snapshot(1, 1);
+        x.sync(0);
+        String synced = Due.look(x);
+        x.revert(0, 1);
+        x.crash();
+        Due.same("mount()", x.mount(), 2);
+        Due.holds("the state of the newest", synced.equals(Due.look(x)));
+        Due.same("UP", x.info(0), 1);
+        Due.same("the next number", x.sync(0), 3);
+    }
+
+    private static void checkpointsStay() {
+        CowContainer x = new CowContainer(8);
+        x.write(0, 0, 0, 1);
+        x.sync(0);
+        x.write(0, 0, 0, 2);
+        x.sync(0);
+        x.crash();
+        x.mount();
+        Due.same("two are there", x.info(1), 2);
+        Due.same("the newest", x.info(2), 2);
+        Due.same("both hold their blocks", x.used(), 2);
+        Due.same("a write after the mount", x.write(0, 0, 0, 3), 3);
+        x.crash();
+        Due.same("mount again", x.mount(), 2);
+        Due.same("the newest isn't written to", x.read(0, 0, 0, 0), 2);
+    }
+
+    private static void empty() {
+        CowContainer x = Due.filled(24);
+        x.crash();
+        Due.same("mount() without a checkpoint", x.mount(), 0);
+        Due.holds("the empty state", Due.look(x).equals(Due.look(new CowContainer(24))));
+        Due.same("the next number", x.sync(0), 1);
+    }
+}
