@@ -31,6 +31,7 @@ public final class CowContainer {
 
     private static final int LEAST_BLOCKS = 4;
     private static final int MOST_BLOCKS = 24;
+    private static final int BLOCK_NUMBERS = MOST_BLOCKS + 1;
     private static final int NO_BLOCK = 0;
     private static final int NO_PLACE = -1;
     private static final int NO_CHECKPOINT = 0;
@@ -38,7 +39,7 @@ public final class CowContainer {
     /** For each place the block that it holds, 1..blockLimit, or NO_BLOCK for a hole. */
     private final int[] held = new int[ALL_PLACES];
     private final boolean[] snapshotThere = new boolean[ALL_SNAPSHOTS];
-    private final int[] valueOfBlock = new int[MOST_BLOCKS + 1];
+    private final int[] valueOfBlock = new int[BLOCK_NUMBERS];
     private final int blockLimit;
     private boolean up;
     private int newestNumber;
@@ -342,7 +343,8 @@ public final class CowContainer {
         return previousNumber == NO_CHECKPOINT ? 1 : 2;
     }
 
-    // A set of blocks is an int whose bit b stands for block b; bit 0, the hole, is never in it.
+    // A set of blocks is an int whose bit b stands for block b. Bit 0 is left to the holes, so that
+    // each place can be added without a look at what it holds; sizeOf doesn't count it.
 
     private int blocksOfTree(int volume, int tree) {
         int start = treeStart(volume, tree);
@@ -350,7 +352,7 @@ public final class CowContainer {
         for (int i = 0; i < PLACES_OF_TREE; i++) {
             set |= 1 << held[start + i];
         }
-        return set & ~(1 << NO_BLOCK);
+        return set;
     }
 
     private int blocksInUseWithout(int leftOut) {
@@ -360,7 +362,7 @@ public final class CowContainer {
                 set |= 1 << held[i];
             }
         }
-        return set & ~(1 << NO_BLOCK);
+        return set;
     }
 
     private int countInUse() {

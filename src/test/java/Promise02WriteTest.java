@@ -98,21 +98,20 @@ public final class Promise02WriteTest {
     }
 
     private static void wrongInputs() {
-        CowContainer x = Due.filled(24);
         for (int volume : Due.NO_VOLUME) {
-            Due.refused("write(" + volume + ", 0, 0, 1)", x, c -> c.write(volume, 0, 0, 1));
+            Due.refused("write(" + volume + ", 0, 0, 1)", c -> c.write(volume, 0, 0, 1));
         }
         for (int file : Due.NO_FILE) {
-            Due.refused("write(1, " + file + ", 0, 1)", x, c -> c.write(1, file, 0, 1));
+            Due.refused("write(1, " + file + ", 0, 1)", c -> c.write(1, file, 0, 1));
         }
         for (int place : Due.NO_PLACE) {
-            Due.refused("write(0, 1, " + place + ", 1)", x, c -> c.write(0, 1, place, 1));
+            Due.refused("write(0, 1, " + place + ", 1)", c -> c.write(0, 1, place, 1));
         }
         CowContainer y = new CowContainer(4);
         for (int i = 0; i < 4; i++) {
             y.write(0, 0, i, i);
         }
-        Due.refused("out of range goes before FULL", y, c -> c.write(0, 0, 4, 1));
+        Due.unchanged("out of range goes before FULL", y, c -> c.write(0, 0, 4, 1), CowContainer.REFUSED);
         Due.refusedWhenDown("write(0, 0, 0, 1)", c -> c.write(0, 0, 0, 1));
     }
 }

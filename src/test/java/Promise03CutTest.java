@@ -55,15 +55,14 @@ public final class Promise03CutTest {
     }
 
     private static void wrongInputs() {
-        CowContainer x = Due.filled(24);
         for (int volume : Due.NO_VOLUME) {
-            Due.refused("cut(" + volume + ", 0, 0)", x, c -> c.cut(volume, 0, 0));
+            Due.refused("cut(" + volume + ", 0, 0)", c -> c.cut(volume, 0, 0));
         }
         for (int file : Due.NO_FILE) {
-            Due.refused("cut(0, " + file + ", 0)", x, c -> c.cut(0, file, 0));
+            Due.refused("cut(0, " + file + ", 0)", c -> c.cut(0, file, 0));
         }
         for (int length : Due.NO_LENGTH) {
-            Due.refused("cut(0, 0, " + length + ")", x, c -> c.cut(0, 0, length));
+            Due.refused("cut(0, 0, " + length + ")", c -> c.cut(0, 0, length));
         }
         Due.refusedWhenDown("cut(0, 0, 0)", c -> c.cut(0, 0, 0));
     }

@@ -64,14 +64,13 @@ public final class Promise04CopyTest {
     }
 
     private static void wrongInputs() {
-        CowContainer x = Due.filled(24);
         for (int volume : Due.NO_VOLUME) {
-            Due.refused("copy(" + volume + ", 0, 1)", x, c -> c.copy(volume, 0, 1));
+            Due.refused("copy(" + volume + ", 0, 1)", c -> c.copy(volume, 0, 1));
         }
         for (int file : Due.NO_FILE) {
-            Due.refused("copy(0, " + file + ", 0)", x, c -> c.copy(0, file, 0));
-            Due.refused("copy(0, 0, " + file + ")", x, c -> c.copy(0, 0, file));
-            Due.refused("copy(0, " + file + ", " + file + ")", x, c -> c.copy(0, file, file));
+            Due.refused("copy(0, " + file + ", 0)", c -> c.copy(0, file, 0));
+            Due.refused("copy(0, 0, " + file + ")", c -> c.copy(0, 0, file));
+            Due.refused("copy(0, " + file + ", " + file + ")", c -> c.copy(0, file, file));
         }
         Due.refusedWhenDown("copy(0, 0, 1)", c -> c.copy(0, 0, 1));
     }

@@ -39,16 +39,15 @@ public final class Promise05SwapTest {
     }
 
     private static void wrongInputs() {
-        CowContainer x = Due.filled(24);
         for (int volume : Due.NO_VOLUME) {
-            Due.refused("swap(" + volume + ", 0, 1)", x, c -> c.swap(volume, 0, 1));
+            Due.refused("swap(" + volume + ", 0, 1)", c -> c.swap(volume, 0, 1));
         }
         for (int file : Due.NO_FILE) {
-            Due.refused("swap(0, " + file + ", 0)", x, c -> c.swap(0, file, 0));
-            Due.refused("swap(0, 0, " + file + ")", x, c -> c.swap(0, 0, file));
-            Due.refused("swap(0, " + file + ", " + file + ")", x, c -> c.swap(0, file, file));
+            Due.refused("swap(0, " + file + ", 0)", c -> c.swap(0, file, 0));
+            Due.refused("swap(0, 0, " + file + ")", c -> c.swap(0, 0, file));
+            Due.refused("swap(0, " + file + ", " + file + ")", c -> c.swap(0, file, file));
         }
-        Due.unchanged("swap(0, 0, 0)", x, c -> c.swap(0, 0, 0), 0);
+        Due.unchanged("swap(0, 0, 0)", Due.filled(24), c -> c.swap(0, 0, 0), 0);
         Due.refusedWhenDown("swap(0, 0, 1)", c -> c.swap(0, 0, 1));
         Due.refusedWhenDown("swap(0, 1, 1)", c -> c.swap(0, 1, 1));
     }

@@ -62,13 +62,12 @@ public final class Promise06MoveTest {
     }
 
     private static void wrongInputs() {
-        CowContainer x = Due.filled(24);
         for (int volume : Due.NO_VOLUME) {
-            Due.refused("move(" + volume + ", 0)", x, c -> c.move(volume, 0));
+            Due.refused("move(" + volume + ", 0)", c -> c.move(volume, 0));
         }
         for (int file : Due.NO_FILE) {
-            Due.refused("move(0, " + file + ")", x, c -> c.move(0, file));
-            Due.refused("move(1, " + file + ")", x, c -> c.move(1, file));
+            Due.refused("move(0, " + file + ")", c -> c.move(0, file));
+            Due.refused("move(1, " + file + ")", c -> c.move(1, file));
         }
         Due.refusedWhenDown("move(0, 0)", c -> c.move(0, 0));
     }

@@ -74,13 +74,12 @@ public final class Promise07SnapshotTest {
     }
 
     private static void wrongInputs() {
-        CowContainer x = Due.filled(24);
         for (int volume : Due.NO_VOLUME) {
-            Due.refused("snapshot(" + volume + ", 1)", x, c -> c.snapshot(volume, 1));
+            Due.refused("snapshot(" + volume + ", 1)", c -> c.snapshot(volume, 1));
         }
         for (int tree : Due.NO_SNAPSHOT_NAME) {
-            Due.refused("snapshot(0, " + tree + ")", x, c -> c.snapshot(0, tree));
-            Due.refused("snapshot(1, " + tree + ")", x, c -> c.snapshot(1, tree));
+            Due.refused("snapshot(0, " + tree + ")", c -> c.snapshot(0, tree));
+            Due.refused("snapshot(1, " + tree + ")", c -> c.snapshot(1, tree));
         }
         Due.refusedWhenDown("snapshot(0, 2)", c -> c.snapshot(0, 2));
         Due.refusedWhenDown("snapshot(0, 1)", c -> c.snapshot(0, 1));

@@ -47,8 +47,9 @@ public final class Promise08DropTest {
         CowContainer x = Due.filled(24);
         Due.unchanged("drop(0, 2)", x, c -> c.drop(0, 2), CowContainer.MISSING);
         Due.unchanged("drop(1, 1)", x, c -> c.drop(1, 1), CowContainer.MISSING);
-        Due.same("drop(0, 1)", x.drop(0, 1), 6);
-        Due.unchanged("drop(0, 1) again", x, c -> c.drop(0, 1), CowContainer.MISSING);
+        CowContainer y = Due.filled(24);
+        Due.same("drop(0, 1)", y.drop(0, 1), 6);
+        Due.unchanged("drop(0, 1) again", y, c -> c.drop(0, 1), CowContainer.MISSING);
     }
 
     private static void checkpointsHold() {
@@ -65,13 +66,12 @@ public final class Promise08DropTest {
     }
 
     private static void wrongInputs() {
-        CowContainer x = Due.filled(24);
         for (int volume : Due.NO_VOLUME) {
-            Due.refused("drop(" + volume + ", 1)", x, c -> c.drop(volume, 1));
+            Due.refused("drop(" + volume + ", 1)", c -> c.drop(volume, 1));
         }
         for (int tree : Due.NO_SNAPSHOT_NAME) {
-            Due.refused("drop(0, " + tree + ")", x, c -> c.drop(0, tree));
-            Due.refused("drop(1, " + tree + ")", x, c -> c.drop(1, tree));
+            Due.refused("drop(0, " + tree + ")", c -> c.drop(0, tree));
+            Due.refused("drop(1, " + tree + ")", c -> c.drop(1, tree));
         }
         Due.refusedWhenDown("drop(0, 1)", c -> c.drop(0, 1));
         Due.refusedWhenDown("drop(0, 2)", c -> c.drop(0, 2));

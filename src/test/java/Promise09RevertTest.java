@@ -75,18 +75,18 @@ public final class Promise09RevertTest {
         CowContainer x = Due.filled(24);
         Due.unchanged("revert(0, 2)", x, c -> c.revert(0, 2), CowContainer.MISSING);
         Due.unchanged("revert(1, 1)", x, c -> c.revert(1, 1), CowContainer.MISSING);
-        x.drop(0, 1);
-        Due.unchanged("revert(0, 1) after a drop", x, c -> c.revert(0, 1), CowContainer.MISSING);
+        CowContainer y = Due.filled(24);
+        y.drop(0, 1);
+        Due.unchanged("revert(0, 1) after a drop", y, c -> c.revert(0, 1), CowContainer.MISSING);
     }
 
     private static void wrongInputs() {
-        CowContainer x = Due.filled(24);
         for (int volume : Due.NO_VOLUME) {
-            Due.refused("revert(" + volume + ", 1)", x, c -> c.revert(volume, 1));
+            Due.refused("revert(" + volume + ", 1)", c -> c.revert(volume, 1));
         }
         for (int tree : Due.NO_SNAPSHOT_NAME) {
-            Due.refused("revert(0, " + tree + ")", x, c -> c.revert(0, tree));
-            Due.refused("revert(1, " + tree + ")", x, c -> c.revert(1, tree));
+            Due.refused("revert(0, " + tree + ")", c -> c.revert(0, tree));
+            Due.refused("revert(1, " + tree + ")", c -> c.revert(1, tree));
         }
         Due.refusedWhenDown("revert(0, 1)", c -> c.revert(0, 1));
         Due.refusedWhenDown("revert(0, 2)", c -> c.revert(0, 2));

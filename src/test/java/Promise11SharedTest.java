@@ -57,25 +57,23 @@ public final class Promise11SharedTest {
     }
 
     private static void missing() {
-        CowContainer x = Due.filled(24);
         int[][] pairs = {{0, 0, 2}, {0, 2, 0}, {0, 1, 2}, {0, 2, 1}, {0, 2, 2}, {1, 0, 1}, {1, 1, 1}, {1, 2, 1}};
         for (int[] p : pairs) {
-            Due.unchanged("shared(" + p[0] + ", " + p[1] + ", " + p[2] + ")", x,
+            Due.unchanged("shared(" + p[0] + ", " + p[1] + ", " + p[2] + ")", Due.filled(24),
                 c -> c.shared(p[0], p[1], p[2]), CowContainer.MISSING);
         }
-        Due.unchanged("shared(0, 0, 1)", x, c -> c.shared(0, 0, 1), 2);
+        Due.unchanged("shared(0, 0, 1)", Due.filled(24), c -> c.shared(0, 0, 1), 2);
     }
 
     private static void wrongInputs() {
-        CowContainer x = Due.filled(24);
         for (int volume : Due.NO_VOLUME) {
-            Due.refused("shared(" + volume + ", 0, 0)", x, c -> c.shared(volume, 0, 0));
+            Due.refused("shared(" + volume + ", 0, 0)", c -> c.shared(volume, 0, 0));
         }
         for (int tree : Due.NO_TREE) {
-            Due.refused("shared(0, " + tree + ", 0)", x, c -> c.shared(0, tree, 0));
-            Due.refused("shared(0, 0, " + tree + ")", x, c -> c.shared(0, 0, tree));
-            Due.refused("out of range goes before MISSING", x, c -> c.shared(0, 2, tree));
-            Due.refused("out of range goes before MISSING", x, c -> c.shared(0, tree, 2));
+            Due.refused("shared(0, " + tree + ", 0)", c -> c.shared(0, tree, 0));
+            Due.refused("shared(0, 0, " + tree + ")", c -> c.shared(0, 0, tree));
+            Due.refused("out of range goes before MISSING", c -> c.shared(0, 2, tree));
+            Due.refused("out of range goes before MISSING", c -> c.shared(0, tree, 2));
         }
         Due.refusedWhenDown("shared(0, 0, 0)", c -> c.shared(0, 0, 0));
         Due.refusedWhenDown("shared(0, 0, 2)", c -> c.shared(0, 0, 2));

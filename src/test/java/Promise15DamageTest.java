@@ -39,12 +39,12 @@ public final class Promise15DamageTest {
     }
 
     private static void refusedWhenUp(int spot) {
+        Due.refused("damage(" + spot + ") when UP without a checkpoint", c -> c.damage(spot));
         CowContainer x = Due.filled(24);
-        Due.refused("damage(" + spot + ") when UP without a checkpoint", x, c -> c.damage(spot));
         x.sync(0);
-        Due.refused("damage(" + spot + ") when UP", x, c -> c.damage(spot));
+        Due.unchanged("damage(" + spot + ") when UP", x, c -> c.damage(spot), CowContainer.REFUSED);
         x.sync(0);
-        Due.refused("damage(" + spot + ") when UP with two", x, c -> c.damage(spot));
+        Due.unchanged("damage(" + spot + ") when UP with two", x, c -> c.damage(spot), CowContainer.REFUSED);
         x.crash();
         Due.same("the checkpoints are still there", x.mount(), 2);
     }

@@ -9,15 +9,15 @@ public final class Promise16MountTest {
     }
 
     private static void refusedWhenUp() {
+        Due.refused("mount() without a checkpoint", c -> c.mount());
         CowContainer x = Due.filled(24);
-        Due.refused("mount() of a new object", x, c -> c.mount());
         x.sync(0);
         x.write(0, 0, 0, 5);
-        Due.refused("mount() with a checkpoint", x, c -> c.mount());
+        Due.unchanged("mount() with a checkpoint", x, c -> c.mount(), CowContainer.REFUSED);
         Due.same("the next number stays", x.sync(0), 2);
         x.crash();
         x.mount();
-        Due.refused("mount() twice", x, c -> c.mount());
+        Due.unchanged("mount() twice", x, c -> c.mount(), CowContainer.REFUSED);
     }
 
     private static void newest() {

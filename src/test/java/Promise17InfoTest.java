@@ -77,14 +77,14 @@ public final class Promise17InfoTest {
 
     private static void otherWhat() {
         int[] others = {-1, -4, 8, 9, 100, Integer.MIN_VALUE, Integer.MAX_VALUE};
-        CowContainer x = Due.filled(24);
         for (int what : others) {
-            Due.refused("info(" + what + ")", x, c -> c.info(what));
+            Due.refused("info(" + what + ")", c -> c.info(what));
             Due.refusedWhenDown("info(" + what + ")", c -> c.info(what));
         }
         for (int what = 0; what < 8; what++) {
             int asked = what;
-            Due.unchanged("info(" + what + ")", x, c -> c.info(asked), x.info(what));
+            int want = Due.filled(24).info(what);
+            Due.unchanged("info(" + what + ")", Due.filled(24), c -> c.info(asked), want);
         }
     }
 }
