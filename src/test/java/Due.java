@@ -9,17 +9,43 @@ final class Due {
     static final int[] NO_SNAPSHOT_NAME = {-1, 0, 3, 4, Integer.MIN_VALUE, Integer.MAX_VALUE};
     static final int[] NO_LENGTH = {-1, 5, 6, Integer.MIN_VALUE, Integer.MAX_VALUE};
 
+    /** The paragraph that holds for each promise, for the tests of a promise's wrong inputs. */
+    static final String EVERY_CALL = "Every call first: a volume, file, place, tree or length out of its range"
+        + " answers REFUSED. Then: the container is DOWN (for damage and mount: UP): REFUSED.";
+
     private static int checked = 0;
     private static int wrong = 0;
+    private static String sentence = "";
+    private static int checkedBefore = 0;
+    private static int sentences = 0;
 
     private Due() {
+    }
+
+    /** What is looked at from here on is a test of this sentence of the document. */
+    static void sentence(String quoted) {
+        closeSentence();
+        sentence = quoted;
+        checkedBefore = checked;
+        sentences++;
+    }
+
+    /** A sentence for which no answer was looked at has no test. */
+    private static void closeSentence() {
+        if (sentences > 0 && checked == checkedBefore) {
+            tell("nothing was looked at");
+        }
+    }
+
+    private static void tell(String fault) {
+        wrong++;
+        System.out.println(sentence.isEmpty() ? fault : "\"" + sentence + "\": " + fault);
     }
 
     static void same(String call, long got, long want) {
         checked++;
         if (got != want) {
-            wrong++;
-            System.out.println(call + " answered " + got + ", due is " + want);
+            tell(call + " answered " + got + ", due is " + want);
         }
     }
 
@@ -30,8 +56,7 @@ final class Due {
     static void holds(String what, boolean got) {
         checked++;
         if (!got) {
-            wrong++;
-            System.out.println(what + " doesn't hold");
+            tell(what + " doesn't hold");
         }
     }
 
@@ -43,10 +68,13 @@ final class Due {
         String before = look(x);
         same(call, made.applyAsInt(x), want);
         String after = look(x);
+        alike(call, before, after);
+    }
+
+    static void alike(String call, String before, String after) {
         checked++;
         if (!before.equals(after)) {
-            wrong++;
-            System.out.println(call + " changed\n  " + before + "\nto\n  " + after);
+            tell(call + " changed\n  " + before + "\nto\n  " + after);
         }
     }
 
@@ -87,7 +115,12 @@ final class Due {
         for (int what = 0; what < 8; what++) {
             seen.append(x.info(what)).append(' ');
         }
-        seen.append("used ").append(x.used());
+        return seen.append("used ").append(x.used()).append(trees(x)).toString();
+    }
+
+    /** What all trees of the state hold, and how many blocks they share. */
+    static String trees(CowContainer x) {
+        StringBuilder seen = new StringBuilder();
         for (int volume = 0; volume < 2; volume++) {
             for (int tree = 0; tree < 3; tree++) {
                 seen.append(" |");
@@ -119,7 +152,9 @@ final class Due {
     }
 
     static void end() {
-        System.out.println(checked + " answers looked at, " + wrong + " not as due");
+        closeSentence();
+        String of = sentences == 0 ? "" : " for " + sentences + " sentences";
+        System.out.println(checked + " answers looked at" + of + ", " + wrong + " not as due");
         if (wrong != 0 || checked == 0) {
             System.exit(1);
         }

@@ -1,17 +1,23 @@
 /** Promise 1: a new object. */
 public final class Promise01NewObjectTest {
     public static void main(String[] args) {
-        limit(Integer.MIN_VALUE, 4);
-        limit(-1, 4);
-        limit(0, 4);
-        limit(3, 4);
+        Due.sentence("below 4 counts as 4");
+        for (int blocks : new int[] {3, 2, 1, 0, -1, -4, -24, Integer.MIN_VALUE + 4, Integer.MIN_VALUE}) {
+            limit(blocks, 4);
+        }
+        Due.sentence("blocks: BLOCKS");
         for (int blocks = 4; blocks <= 24; blocks++) {
             limit(blocks, blocks);
         }
-        limit(25, 24);
-        limit(Integer.MAX_VALUE, 24);
+        Due.sentence("above 24 as 24");
+        for (int blocks : new int[] {25, 26, 32, 64, 256, 260, 65536 + 8, 1 << 30, Integer.MAX_VALUE}) {
+            limit(blocks, 24);
+        }
+        Due.sentence("UP, the empty state, no checkpoint");
         empty();
         apart();
+        Due.sentence("the next one has number 1");
+        Due.same("the first sync(0)", new CowContainer(4).sync(0), 1);
         Due.end();
     }
 
@@ -41,7 +47,9 @@ public final class Promise01NewObjectTest {
                 Due.same("new: snapshot 2's place", x.read(volume, 2, i / 4, i % 4), CowContainer.NONE);
             }
         }
-        Due.same("new: sync(0)", x.sync(0), 1);
+        Due.same("new: mount()", x.mount(), CowContainer.REFUSED);
+        Due.same("new: crash()", x.crash(), 0);
+        Due.same("new: damage(0)", x.damage(0), CowContainer.MISSING);
     }
 
     private static void apart() {

@@ -3,9 +3,14 @@ public final class Promise03CutTest {
     private static final long HOLE = CowContainer.HOLE;
 
     public static void main(String[] args) {
+        Due.sentence("length 0..4");
         everyLength();
-        withHoles();
+        Due.sentence("all places of the live tree's file from 'length' on become holes");
         sharedBlocksStay();
+        Due.sentence("Answers how many of them held a block.");
+        withHoles();
+        everyPattern();
+        Due.sentence(Due.EVERY_CALL);
         wrongInputs();
         Due.end();
     }
@@ -65,5 +70,26 @@ public final class Promise03CutTest {
             Due.refused("cut(0, 0, " + length + ")", c -> c.cut(0, 0, length));
         }
         Due.refusedWhenDown("cut(0, 0, 0)", c -> c.cut(0, 0, 0));
+    }
+
+    /** Every set of places that hold a block, cut to every length. */
+    private static void everyPattern() {
+        for (int set = 0; set < 16; set++) {
+            for (int length = 0; length <= 4; length++) {
+                CowContainer x = new CowContainer(4);
+                for (int place = 0; place < 4; place++) {
+                    if ((set >> place & 1) != 0) {
+                        x.write(0, 3, place, place);
+                    }
+                }
+                String call = "cut(0, 3, " + length + ") of places " + Integer.toBinaryString(set);
+                Due.same(call, x.cut(0, 3, length), Integer.bitCount(set >> length));
+                for (int place = 0; place < 4; place++) {
+                    boolean there = place < length && (set >> place & 1) != 0;
+                    Due.same("place " + place + " after it", x.read(0, 0, 3, place), there ? place : HOLE);
+                }
+                Due.same("used after it", x.used(), Integer.bitCount(set & (1 << length) - 1));
+            }
+        }
     }
 }

@@ -3,10 +3,14 @@ public final class Promise04CopyTest {
     private static final long HOLE = CowContainer.HOLE;
 
     public static void main(String[] args) {
+        Due.sentence("Each place of file 'to' becomes what it is in file 'from' (the same block or a hole).");
         blocksAndHoles();
         everyPair();
         ontoItself();
         noRoomNeeded();
+        Due.sentence("Answers how many places of it hold a block.");
+        everyPattern();
+        Due.sentence(Due.EVERY_CALL);
         wrongInputs();
         Due.end();
     }
@@ -73,5 +77,25 @@ public final class Promise04CopyTest {
             Due.refused("copy(0, " + file + ", " + file + ")", c -> c.copy(0, file, file));
         }
         Due.refusedWhenDown("copy(0, 0, 1)", c -> c.copy(0, 0, 1));
+    }
+
+    /** Every set of places of the source over every set of places of the target. */
+    private static void everyPattern() {
+        for (int sets = 0; sets < 256; sets++) {
+            CowContainer x = new CowContainer(8);
+            for (int i = 0; i < 8; i++) {
+                if ((sets >> i & 1) != 0) {
+                    x.write(1, 1 + i / 4, i % 4, i);
+                }
+            }
+            int held = Integer.bitCount(sets & 15);
+            Due.same("copy of " + (sets & 15) + " over " + (sets >> 4), x.copy(1, 1, 2), held);
+            for (int place = 0; place < 4; place++) {
+                long want = (sets >> place & 1) != 0 ? place : HOLE;
+                Due.same("the source after it", x.read(1, 0, 1, place), want);
+                Due.same("the target after it", x.read(1, 0, 2, place), want);
+            }
+            Due.same("used after it", x.used(), held);
+        }
     }
 }

@@ -1,8 +1,13 @@
 /** Promise 5: swap. */
 public final class Promise05SwapTest {
     public static void main(String[] args) {
+        Due.sentence("Files a and b of the live tree change their contents.");
         everyPair();
         sameBlocks();
+        noRoomNeeded();
+        Due.sentence("Answers 1, or 0 if a is b.");
+        sameContents();
+        Due.sentence(Due.EVERY_CALL);
         wrongInputs();
         Due.end();
     }
@@ -50,5 +55,30 @@ public final class Promise05SwapTest {
         Due.unchanged("swap(0, 0, 0)", Due.filled(24), c -> c.swap(0, 0, 0), 0);
         Due.refusedWhenDown("swap(0, 0, 1)", c -> c.swap(0, 0, 1));
         Due.refusedWhenDown("swap(0, 1, 1)", c -> c.swap(0, 1, 1));
+    }
+
+    private static void noRoomNeeded() {
+        CowContainer x = Twins.full(2);
+        Due.same("swap when full", x.swap(0, 0, 3), 1);
+        Due.same("it went there", x.read(0, 0, 3, 0), 3);
+        Due.same("and left a hole", x.read(0, 0, 0, 0), CowContainer.HOLE);
+        Due.same("swap back", x.swap(0, 3, 0), 1);
+        Due.same("it is back", x.read(0, 0, 0, 0), 3);
+        Due.same("used after it", x.used(), 4);
+    }
+
+    /** It is the files that are the same or not, whatever they hold. */
+    private static void sameContents() {
+        for (int i = 0; i < 16; i++) {
+            CowContainer x = new CowContainer(4);
+            int want = i / 4 == i % 4 ? 0 : 1;
+            Due.same("two empty files", x.swap(0, i / 4, i % 4), want);
+            x.write(1, i / 4, 2, 5);
+            x.copy(1, i / 4, i % 4);
+            Due.same("two files of the same blocks", x.swap(1, i / 4, i % 4), want);
+            Due.same("the one", x.read(1, 0, i / 4, 2), 5);
+            Due.same("the other", x.read(1, 0, i % 4, 2), 5);
+            Due.same("one block still", x.used(), 1);
+        }
     }
 }

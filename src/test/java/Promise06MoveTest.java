@@ -3,9 +3,15 @@ public final class Promise06MoveTest {
     private static final long HOLE = CowContainer.HOLE;
 
     public static void main(String[] args) {
+        Due.sentence("the same file of the other volume's live tree becomes what this one is, and this one becomes"
+            + " all holes");
         everyFile();
         overwritten();
         sameBlocks();
+        thereAndBack();
+        Due.sentence("Answers how many places hold a block there now.");
+        everyPattern();
+        Due.sentence(Due.EVERY_CALL);
         wrongInputs();
         Due.end();
     }
@@ -70,5 +76,36 @@ public final class Promise06MoveTest {
             Due.refused("move(1, " + file + ")", c -> c.move(1, file));
         }
         Due.refusedWhenDown("move(0, 0)", c -> c.move(0, 0));
+    }
+
+    private static void thereAndBack() {
+        CowContainer x = Twins.full(2);
+        Due.same("move when full", x.move(1, 3), 1);
+        Due.file("there", x, 0, 3, HOLE, HOLE, HOLE, 4);
+        Due.file("here", x, 1, 3, HOLE, HOLE, HOLE, HOLE);
+        Due.same("used after it", x.used(), 4);
+        Due.same("move back", x.move(0, 3), 1);
+        Due.file("here again", x, 1, 3, HOLE, HOLE, HOLE, 4);
+        Due.file("no longer there", x, 0, 3, HOLE, HOLE, HOLE, HOLE);
+        Due.same("the snapshot of it", x.read(1, 2, 3, 3), 2);
+    }
+
+    /** Every set of places of the file here over every set of places of the file there. */
+    private static void everyPattern() {
+        for (int sets = 0; sets < 256; sets++) {
+            CowContainer x = new CowContainer(8);
+            for (int i = 0; i < 8; i++) {
+                if ((sets >> i & 1) != 0) {
+                    x.write(1 - i / 4, 2, i % 4, i);
+                }
+            }
+            int held = Integer.bitCount(sets & 15);
+            Due.same("move of " + (sets & 15) + " over " + (sets >> 4), x.move(1, 2), held);
+            for (int place = 0; place < 4; place++) {
+                Due.same("here after it", x.read(1, 0, 2, place), HOLE);
+                Due.same("there after it", x.read(0, 0, 2, place), (sets >> place & 1) != 0 ? place : HOLE);
+            }
+            Due.same("used after it", x.used(), held);
+        }
     }
 }

@@ -3,10 +3,18 @@ public final class Promise07SnapshotTest {
     private static final long HOLE = CowContainer.HOLE;
 
     public static void main(String[] args) {
+        Due.sentence("tree 1 or 2 (else REFUSED)");
+        wrongNames();
+        Due.sentence("EXISTS if there is this snapshot.");
+        exists();
+        existsAfterMount();
+        Due.sentence("Else it's the live tree as it is now.");
         frozen();
         everyName();
-        exists();
         noRoomNeeded();
+        Due.sentence("Answers how many places of it hold a block.");
+        fromNoneToSixteen();
+        Due.sentence(Due.EVERY_CALL);
         wrongInputs();
         Due.end();
     }
@@ -73,15 +81,53 @@ public final class Promise07SnapshotTest {
         Due.same("used after them", x.used(), 4);
     }
 
-    private static void wrongInputs() {
-        for (int volume : Due.NO_VOLUME) {
-            Due.refused("snapshot(" + volume + ", 1)", c -> c.snapshot(volume, 1));
-        }
+    private static void wrongNames() {
         for (int tree : Due.NO_SNAPSHOT_NAME) {
             Due.refused("snapshot(0, " + tree + ")", c -> c.snapshot(0, tree));
             Due.refused("snapshot(1, " + tree + ")", c -> c.snapshot(1, tree));
         }
+    }
+
+    private static void wrongInputs() {
+        for (int volume : Due.NO_VOLUME) {
+            Due.refused("snapshot(" + volume + ", 1)", c -> c.snapshot(volume, 1));
+        }
         Due.refusedWhenDown("snapshot(0, 2)", c -> c.snapshot(0, 2));
         Due.refusedWhenDown("snapshot(0, 1)", c -> c.snapshot(0, 1));
+    }
+
+    private static void existsAfterMount() {
+        CowContainer x = new CowContainer(4);
+        x.snapshot(0, 1);
+        x.sync(0);
+        x.snapshot(0, 2);
+        x.drop(0, 1);
+        x.crash();
+        Due.same("REFUSED goes before EXISTS", x.snapshot(0, 1), CowContainer.REFUSED);
+        x.mount();
+        Due.same("the checkpoint's snapshot is there again", x.snapshot(0, 1), CowContainer.EXISTS);
+        Due.same("a later one is lost", x.snapshot(0, 2), 0);
+        x.crash();
+        x.damage(0);
+        x.mount();
+        Due.same("without a checkpoint none is there", x.snapshot(0, 1), 0);
+    }
+
+    /** The tree's places one by one, until all sixteen of them hold the blocks of one file. */
+    private static void fromNoneToSixteen() {
+        CowContainer x = new CowContainer(4);
+        Due.same("snapshot of an empty tree", x.snapshot(1, 2), 0);
+        for (int i = 0; i < 4; i++) {
+            x.write(1, 0, i, i);
+            x.drop(1, 2);
+            Due.same("snapshot of " + (i + 1) + " places", x.snapshot(1, 2), i + 1);
+        }
+        for (int file = 1; file < 4; file++) {
+            x.copy(1, 0, file);
+            x.drop(1, 2);
+            Due.same("snapshot of " + (file + 1) + " files", x.snapshot(1, 2), 4 * file + 4);
+        }
+        Due.same("four blocks in all", x.used(), 4);
+        Due.same("the other volume's tree is empty", x.snapshot(0, 2), 0);
     }
 }

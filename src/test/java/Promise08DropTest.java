@@ -1,10 +1,18 @@
 /** Promise 8: drop. */
 public final class Promise08DropTest {
     public static void main(String[] args) {
-        blocksGoAndStay();
-        onlyTheNamed();
+        Due.sentence("tree 1 or 2 (else REFUSED)");
+        wrongNames();
+        Due.sentence("MISSING if there is no such snapshot.");
         missing();
+        missingAfterMount();
+        Due.sentence("Else it's gone.");
+        onlyTheNamed();
+        anEmptyOne();
+        Due.sentence("Answers the number of blocks now in use.");
+        blocksGoAndStay();
         checkpointsHold();
+        Due.sentence(Due.EVERY_CALL);
         wrongInputs();
         Due.end();
     }
@@ -65,15 +73,37 @@ public final class Promise08DropTest {
         Due.same("nothing holds the block", x.used(), 0);
     }
 
-    private static void wrongInputs() {
-        for (int volume : Due.NO_VOLUME) {
-            Due.refused("drop(" + volume + ", 1)", c -> c.drop(volume, 1));
-        }
+    private static void wrongNames() {
         for (int tree : Due.NO_SNAPSHOT_NAME) {
             Due.refused("drop(0, " + tree + ")", c -> c.drop(0, tree));
             Due.refused("drop(1, " + tree + ")", c -> c.drop(1, tree));
         }
+    }
+
+    private static void wrongInputs() {
+        for (int volume : Due.NO_VOLUME) {
+            Due.refused("drop(" + volume + ", 1)", c -> c.drop(volume, 1));
+        }
         Due.refusedWhenDown("drop(0, 1)", c -> c.drop(0, 1));
         Due.refusedWhenDown("drop(0, 2)", c -> c.drop(0, 2));
+    }
+
+    private static void missingAfterMount() {
+        CowContainer x = new CowContainer(4);
+        x.sync(0);
+        x.snapshot(1, 1);
+        x.crash();
+        Due.same("REFUSED goes before MISSING", x.drop(1, 2), CowContainer.REFUSED);
+        x.mount();
+        Due.same("a snapshot after the sync is lost", x.drop(1, 1), CowContainer.MISSING);
+        Due.same("in a new container", new CowContainer(4).drop(0, 1), CowContainer.MISSING);
+    }
+
+    private static void anEmptyOne() {
+        CowContainer x = new CowContainer(4);
+        x.snapshot(0, 2);
+        Due.same("drop of an empty snapshot", x.drop(0, 2), 0);
+        Due.same("it is gone", x.info(5), 0);
+        Due.same("drop of it again", x.drop(0, 2), CowContainer.MISSING);
     }
 }

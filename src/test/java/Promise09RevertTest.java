@@ -3,11 +3,19 @@ public final class Promise09RevertTest {
     private static final long HOLE = CowContainer.HOLE;
 
     public static void main(String[] args) {
+        Due.sentence("tree 1 or 2 (else REFUSED)");
+        wrongNames();
+        Due.sentence("MISSING if there is no such snapshot.");
+        missing();
+        missingAfterMount();
+        Due.sentence("Else the live tree becomes what the snapshot is, which stays.");
         ordinary();
         onlyTheNamed();
         toEmpty();
         sharesUntilWritten();
-        missing();
+        Due.sentence("Answers the number of blocks now in use.");
+        countsWhatStays();
+        Due.sentence(Due.EVERY_CALL);
         wrongInputs();
         Due.end();
     }
@@ -80,15 +88,47 @@ public final class Promise09RevertTest {
         Due.unchanged("revert(0, 1) after a drop", y, c -> c.revert(0, 1), CowContainer.MISSING);
     }
 
-    private static void wrongInputs() {
-        for (int volume : Due.NO_VOLUME) {
-            Due.refused("revert(" + volume + ", 1)", c -> c.revert(volume, 1));
-        }
+    private static void wrongNames() {
         for (int tree : Due.NO_SNAPSHOT_NAME) {
             Due.refused("revert(0, " + tree + ")", c -> c.revert(0, tree));
             Due.refused("revert(1, " + tree + ")", c -> c.revert(1, tree));
         }
+    }
+
+    private static void wrongInputs() {
+        for (int volume : Due.NO_VOLUME) {
+            Due.refused("revert(" + volume + ", 1)", c -> c.revert(volume, 1));
+        }
         Due.refusedWhenDown("revert(0, 1)", c -> c.revert(0, 1));
         Due.refusedWhenDown("revert(0, 2)", c -> c.revert(0, 2));
+    }
+
+    private static void missingAfterMount() {
+        CowContainer x = new CowContainer(4);
+        x.write(1, 0, 0, 1);
+        x.sync(0);
+        x.snapshot(1, 1);
+        x.crash();
+        Due.same("REFUSED goes before MISSING", x.revert(1, 2), CowContainer.REFUSED);
+        x.mount();
+        Due.same("a snapshot after the sync is lost", x.revert(1, 1), CowContainer.MISSING);
+        Due.same("the live tree stays", x.read(1, 0, 0, 0), 1);
+        Due.same("in a new container", new CowContainer(4).revert(0, 2), CowContainer.MISSING);
+    }
+
+    /** The live tree's blocks go, but for those that something else holds. */
+    private static void countsWhatStays() {
+        CowContainer x = Twins.full(0);
+        Due.same("full: revert of volume 0", x.revert(0, 1), 3);
+        Due.same("full: revert of volume 1", x.revert(1, 2), 2);
+        Due.same("revert again", x.revert(1, 2), 2);
+        CowContainer y = Twins.full(1);
+        Due.same("the newest checkpoint holds them", y.revert(0, 1), 4);
+        y.sync(0);
+        Due.same("the previous one holds them", y.revert(1, 2), 4);
+        y.sync(0);
+        Due.same("what the older one alone held is gone", y.revert(1, 2), 3);
+        y.sync(0);
+        Due.same("and at last the rest", y.revert(1, 2), 2);
     }
 }

@@ -4,10 +4,17 @@ public final class Promise10ReadTest {
     private static final long NONE = CowContainer.NONE;
 
     public static void main(String[] args) {
+        Due.sentence("tree 0..2");
         everyTree();
-        values();
+        Due.sentence("NONE where a call with an int answer would be REFUSED");
         wrongInputs();
         down();
+        Due.sentence("or there is no such snapshot");
+        noSuchSnapshot();
+        Due.sentence("HOLE for a hole");
+        holes();
+        Due.sentence("else the block's value");
+        values();
         Due.end();
     }
 
@@ -67,5 +74,38 @@ public final class Promise10ReadTest {
                 }
             }
         }
+    }
+
+    private static void noSuchSnapshot() {
+        for (int i = 0; i < 4; i++) {
+            CowContainer x = new CowContainer(4);
+            int volume = i / 2;
+            int tree = i % 2 + 1;
+            x.write(volume, 1, 1, 5);
+            Due.tree("not yet made", x, volume, tree, 1, NONE, NONE, NONE, NONE);
+            x.snapshot(volume, 3 - tree);
+            x.snapshot(1 - volume, tree);
+            Due.tree("others are made", x, volume, tree, 1, NONE, NONE, NONE, NONE);
+            x.snapshot(volume, tree);
+            Due.tree("made", x, volume, tree, 1, HOLE, 5, HOLE, HOLE);
+            x.drop(volume, tree);
+            Due.tree("dropped", x, volume, tree, 1, NONE, NONE, NONE, NONE);
+        }
+    }
+
+    private static void holes() {
+        CowContainer x = new CowContainer(4);
+        x.snapshot(0, 1);
+        Due.tree("never written", x, 0, 0, 0, HOLE, HOLE, HOLE, HOLE);
+        Due.tree("a snapshot's", x, 0, 1, 0, HOLE, HOLE, HOLE, HOLE);
+        x.write(0, 0, 0, 1);
+        x.cut(0, 0, 0);
+        Due.tree("cut", x, 0, 0, 0, HOLE, HOLE, HOLE, HOLE);
+        x.write(0, 0, 3, 2);
+        x.move(0, 0);
+        Due.tree("moved out", x, 0, 0, 0, HOLE, HOLE, HOLE, HOLE);
+        Due.tree("moved in", x, 1, 0, 0, HOLE, HOLE, HOLE, 2);
+        x.copy(1, 1, 0);
+        Due.tree("copied over", x, 1, 0, 0, HOLE, HOLE, HOLE, HOLE);
     }
 }

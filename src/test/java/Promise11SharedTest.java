@@ -1,10 +1,17 @@
 /** Promise 11: shared. */
 public final class Promise11SharedTest {
     public static void main(String[] args) {
-        eachBlockOnce();
+        Due.sentence("trees a and b 0..2");
+        everyPairOfTrees();
+        Due.sentence("MISSING if one of the two trees of the volume isn't there.");
+        missing();
+        Due.sentence("Else how many blocks are held both by some place of tree a and by some place of tree b");
         anyPlace();
         snapshots();
-        missing();
+        fromNoneToAll();
+        Due.sentence("each block counted once");
+        eachBlockOnce();
+        Due.sentence(Due.EVERY_CALL);
         wrongInputs();
         Due.end();
     }
@@ -77,5 +84,47 @@ public final class Promise11SharedTest {
         }
         Due.refusedWhenDown("shared(0, 0, 0)", c -> c.shared(0, 0, 0));
         Due.refusedWhenDown("shared(0, 0, 2)", c -> c.shared(0, 0, 2));
+    }
+
+    private static void everyPairOfTrees() {
+        for (int i = 0; i < 18; i++) {
+            CowContainer x = new CowContainer(4);
+            int volume = i / 9;
+            int a = i / 3 % 3;
+            int b = i % 3;
+            x.write(volume, 1, 1, 5);
+            int want = a == 0 && b == 0 ? 1 : CowContainer.MISSING;
+            String call = "shared(" + volume + ", " + a + ", " + b + ")";
+            Due.same(call + " without snapshots", x.shared(volume, a, b), want);
+            x.snapshot(1 - volume, 1);
+            x.snapshot(1 - volume, 2);
+            Due.same(call + " with the other volume's", x.shared(volume, a, b), want);
+            x.snapshot(volume, 1);
+            x.snapshot(volume, 2);
+            Due.same(call + " with both", x.shared(volume, a, b), 1);
+            x.drop(volume, 2);
+            Due.same(call + " with 1 alone", x.shared(volume, a, b), a < 2 && b < 2 ? 1 : CowContainer.MISSING);
+        }
+    }
+
+    /** All sixteen places of both trees, of which one after the other gets a block of its own. */
+    private static void fromNoneToAll() {
+        CowContainer x = new CowContainer(24);
+        Due.same("an empty tree", x.shared(0, 0, 0), 0);
+        for (int i = 0; i < 16; i++) {
+            x.write(0, i / 4, i % 4, 5);
+        }
+        x.snapshot(0, 2);
+        Due.same("all sixteen", x.shared(0, 0, 2), 16);
+        for (int i = 0; i < 8; i++) {
+            x.write(0, i / 4, i % 4, 5);
+            Due.same("all but " + (i + 1), x.shared(0, 0, 2), 15 - i);
+        }
+        Due.same("the live tree has sixteen still", x.shared(0, 0, 0), 16);
+        for (int file = 0; file < 4; file++) {
+            x.cut(0, file, 0);
+        }
+        Due.same("none", x.shared(0, 0, 2), 0);
+        Due.same("the snapshot has sixteen still", x.shared(0, 2, 2), 16);
     }
 }

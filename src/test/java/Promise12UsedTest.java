@@ -1,10 +1,14 @@
 /** Promise 12: used. */
 public final class Promise12UsedTest {
     public static void main(String[] args) {
+        Due.sentence("The number of blocks in use");
         state();
         checkpoints();
         afterCrash();
+        fromNoneToAll();
+        Due.sentence("REFUSED when DOWN");
         Due.refusedWhenDown("used()", c -> c.used());
+        whenDown();
         Due.end();
     }
 
@@ -63,5 +67,30 @@ public final class Promise12UsedTest {
         x.damage(0);
         x.mount();
         Due.same("without a checkpoint", x.used(), 0);
+    }
+
+    private static void fromNoneToAll() {
+        for (int blocks = 4; blocks <= 24; blocks++) {
+            CowContainer x = new CowContainer(blocks);
+            Due.same("none of " + blocks, x.used(), 0);
+            for (int i = 0; i < 32; i++) {
+                x.write(i / 16, i / 4 % 4, i % 4, i);
+                Due.same("after write no " + i, x.used(), Math.min(i + 1, blocks));
+            }
+        }
+    }
+
+    private static void whenDown() {
+        CowContainer x = new CowContainer(4);
+        x.crash();
+        Due.same("without a checkpoint", x.used(), CowContainer.REFUSED);
+        x.mount();
+        Due.same("mounted", x.used(), 0);
+        x.write(0, 0, 0, 1);
+        x.sync(0);
+        x.sync(1);
+        Due.same("by a torn sync", x.used(), CowContainer.REFUSED);
+        x.mount();
+        Due.same("mounted again", x.used(), 1);
     }
 }

@@ -1,16 +1,24 @@
 /** Promise 13: sync. */
 public final class Promise13SyncTest {
     public static void main(String[] args) {
-        numbers();
-        olderIsGone();
+        Due.sentence("The state is made a checkpoint.");
         wholeState();
         notTheStateItself();
+        noRoomNeeded();
+        Due.sentence("the newest checkpoint becomes the previous one (an older previous one is gone)");
+        olderIsGone();
+        Due.sentence("the state with the next number is the newest; answers its number");
+        numbers();
+        Due.sentence("Any other tear: the power fails meanwhile: the previous checkpoint is gone, the newest stays,"
+            + " DOWN; answers 0.");
         torn();
         tornWithOne();
         tornWithNone();
-        noRoomNeeded();
+        tornTwice();
+        Due.sentence("REFUSED when DOWN.");
         Due.refusedWhenDown("sync(0)", c -> c.sync(0));
         Due.refusedWhenDown("sync(1)", c -> c.sync(1));
+        tornWhenDown();
         Due.end();
     }
 
@@ -64,7 +72,7 @@ public final class Promise13SyncTest {
     }
 
     private static void torn() {
-        int[] tears = {1, 5, -1, Integer.MIN_VALUE, Integer.MAX_VALUE};
+        int[] tears = {1, 2, 5, -1, 256, 65536, 1 << 30, Integer.MIN_VALUE, Integer.MAX_VALUE};
         for (int tear : tears) {
             CowContainer x = new CowContainer(8);
             x.write(0, 0, 0, 1);
@@ -117,5 +125,28 @@ public final class Promise13SyncTest {
         Due.same("sync when full", x.sync(0), 1);
         Due.same("sync when full again", x.sync(0), 2);
         Due.same("used after it", x.used(), 4);
+    }
+
+    private static void tornTwice() {
+        CowContainer x = Twins.synced(2);
+        Due.same("the first torn sync", x.sync(7), 0);
+        x.mount();
+        String newest = Due.look(x);
+        Due.same("the second torn sync", x.sync(-7), 0);
+        Due.same("the newest is still there", x.info(1), 1);
+        Due.same("mount", x.mount(), 2);
+        Due.holds("its state is whole", newest.equals(Due.look(x)));
+        Due.same("the number that was torn is given", x.sync(0), 3);
+    }
+
+    /** A torn sync that is refused takes no checkpoint with it. */
+    private static void tornWhenDown() {
+        CowContainer x = Twins.synced(2);
+        x.crash();
+        Due.same("sync(1) when DOWN", x.sync(1), CowContainer.REFUSED);
+        Due.same("sync(0) when DOWN", x.sync(0), CowContainer.REFUSED);
+        Due.same("both are there", x.info(1), 2);
+        Due.same("damage finds the previous one", x.damage(0), 1);
+        Due.same("mount", x.mount(), 1);
     }
 }

@@ -1,10 +1,13 @@
 /** Promise 14: crash. */
 public final class Promise14CrashTest {
     public static void main(String[] args) {
+        Due.sentence("The power fails: DOWN. Answers 0");
         down();
         checkpointsStay();
         withoutCheckpoint();
+        Due.sentence("REFUSED when DOWN");
         Due.refusedWhenDown("crash()", c -> c.crash());
+        afterTornSync();
         Due.end();
     }
 
@@ -44,5 +47,14 @@ public final class Promise14CrashTest {
         Due.same("no checkpoint", x.info(1), 0);
         Due.same("mount", x.mount(), 0);
         Due.holds("all is lost", Due.look(x).equals(Due.look(new CowContainer(24))));
+    }
+
+    private static void afterTornSync() {
+        CowContainer x = new CowContainer(4);
+        x.sync(1);
+        Due.same("crash() after a torn sync", x.crash(), CowContainer.REFUSED);
+        x.mount();
+        Due.same("crash() after the mount", x.crash(), 0);
+        Due.same("crash() once more", x.crash(), CowContainer.REFUSED);
     }
 }

@@ -1,12 +1,21 @@
 /** Promise 15: damage. */
 public final class Promise15DamageTest {
     public static void main(String[] args) {
-        int[] spots = {0, 1, -1, 99, Integer.MIN_VALUE, Integer.MAX_VALUE};
-        for (int spot : spots) {
+        Due.sentence("Any spot.");
+        for (int spot : Call.anyInt()) {
             fallsBack(spot);
+        }
+        Due.sentence("REFUSED when UP");
+        for (int spot : Call.anyInt()) {
             refusedWhenUp(spot);
         }
+        Due.sentence("MISSING if there is no checkpoint.");
+        missing();
+        Due.sentence("Else the newest checkpoint is gone, the previous one, if there is one, is the newest.");
+        wholeState();
         numbersAfterDamage();
+        Due.sentence("Answers how many checkpoints are left.");
+        afterTornSync();
         Due.end();
     }
 
@@ -66,5 +75,45 @@ public final class Promise15DamageTest {
         Due.same("mount without a checkpoint", x.mount(), 0);
         Due.same("1 is given again", x.sync(0), 1);
         Due.same("and it is the only one", x.info(1), 1);
+    }
+
+    private static void missing() {
+        CowContainer x = new CowContainer(4);
+        Due.same("REFUSED goes before MISSING", x.damage(0), CowContainer.REFUSED);
+        x.crash();
+        Due.same("never synced", x.damage(0), CowContainer.MISSING);
+        Due.same("and once more", x.damage(1), CowContainer.MISSING);
+        Due.same("still DOWN", x.info(0), 0);
+        x.mount();
+        x.sync(1);
+        Due.same("a torn sync made none", x.damage(0), CowContainer.MISSING);
+        Due.same("mount", x.mount(), 0);
+        Due.same("the next number", x.sync(0), 1);
+    }
+
+    private static void wholeState() {
+        CowContainer x = Twins.synced(1);
+        x.sync(0);
+        String synced = Due.trees(x);
+        x.write(1, 2, 0, 60);
+        x.drop(1, 2);
+        x.sync(0);
+        x.crash();
+        Due.same("damage", x.damage(0), 1);
+        Due.same("the previous one's number", x.info(2), 2);
+        Due.same("mount", x.mount(), 2);
+        Due.alike("damage", synced, Due.trees(x));
+        Due.same("the damaged one's blocks are gone", x.used(), 9);
+    }
+
+    private static void afterTornSync() {
+        CowContainer x = Twins.synced(2);
+        x.sync(1);
+        Due.same("the torn sync left one", x.damage(0), 0);
+        Due.same("none is left", x.info(1), 0);
+        CowContainer y = Twins.synced(2);
+        y.crash();
+        Due.same("the crash left two", y.damage(0), 1);
+        Due.same("and of one none is left", y.damage(0), 0);
     }
 }

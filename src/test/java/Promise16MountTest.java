@@ -1,10 +1,19 @@
 /** Promise 16: mount. */
 public final class Promise16MountTest {
     public static void main(String[] args) {
+        Due.sentence("REFUSED when UP.");
         refusedWhenUp();
+        Due.sentence("Else UP: the state is that of the newest checkpoint");
         newest();
+        Due.sentence("the next checkpoint's number is its number + 1");
+        nextNumber();
+        Due.sentence("the checkpoints stay as they are");
         checkpointsStay();
+        Due.sentence("Without a checkpoint: the empty state, next number 1.");
         empty();
+        emptyAfterDamage();
+        Due.sentence("Answers the newest checkpoint's number, or 0.");
+        answers();
         Due.end();
     }
 
@@ -59,5 +68,56 @@ public final class Promise16MountTest {
         Due.same("mount() without a checkpoint", x.mount(), 0);
         Due.holds("the empty state", Due.look(x).equals(Due.look(new CowContainer(24))));
         Due.same("the next number", x.sync(0), 1);
+    }
+
+    private static void nextNumber() {
+        CowContainer x = new CowContainer(4);
+        for (int number = 1; number <= 5; number++) {
+            x.sync(0);
+        }
+        x.crash();
+        x.mount();
+        Due.same("after a crash", x.sync(0), 6);
+        x.sync(1);
+        x.mount();
+        Due.same("after a torn sync", x.sync(0), 7);
+        x.sync(0);
+        x.crash();
+        x.damage(0);
+        x.mount();
+        Due.same("after a damage", x.sync(0), 8);
+        x.crash();
+        x.damage(0);
+        x.mount();
+        x.crash();
+        x.mount();
+        Due.same("after two mounts", x.sync(0), 8);
+    }
+
+    private static void emptyAfterDamage() {
+        CowContainer x = Twins.synced(2);
+        x.crash();
+        x.damage(0);
+        x.damage(0);
+        Due.same("mount() after both are damaged", x.mount(), 0);
+        Due.holds("the empty state", Due.look(x).equals(Due.look(new CowContainer(24))));
+        Due.same("the next number", x.sync(0), 1);
+        Due.same("the one after it", x.sync(0), 2);
+    }
+
+    private static void answers() {
+        CowContainer x = new CowContainer(4);
+        x.crash();
+        Due.same("none", x.mount(), 0);
+        for (int number = 1; number <= 4; number++) {
+            x.sync(0);
+            x.crash();
+            Due.same("after sync no " + number, x.mount(), number);
+            x.crash();
+            Due.same("and again", x.mount(), number);
+        }
+        x.crash();
+        x.damage(0);
+        Due.same("after a damage", x.mount(), 3);
     }
 }
