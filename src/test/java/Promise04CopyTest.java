@@ -3,7 +3,8 @@ public final class Promise04CopyTest {
     private static final long HOLE = CowContainer.HOLE;
 
     public static void main(String[] args) {
-        Due.sentence("Each place of file 'to' becomes what it is in file 'from' (the same block or a hole).");
+        Due.sentence("Each place of the live tree's file 'to' becomes what it is in the live tree's file 'from'"
+            + " (the same block or a hole).");
         blocksAndHoles();
         everyPair();
         ontoItself();

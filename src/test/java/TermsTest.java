@@ -19,7 +19,8 @@ public final class TermsTest {
         everywhere();
         Due.sentence("two blocks are different even if their values are equal");
         equalValues();
-        Due.sentence("for each volume 0 and 1: the live tree (tree 0) and, for each name 1 and 2, a snapshot or none");
+        Due.sentence("for each volume 0 and 1: the live tree (tree 0) and, for each name 1 and 2, a snapshot (tree 1"
+            + " and 2) or none.");
         sixTreesApart();
         Due.sentence("The EMPTY state: all places of the live trees are holes, no snapshots.");
         emptyStates();
