@@ -3,6 +3,8 @@ public final class Promise06MoveTest {
     private static final long HOLE = CowContainer.HOLE;
 
     public static void main(String[] args) {
+        Due.sentence("Moves the live tree's file out of the volume");
+        bothWays();
         Due.sentence("the same file of the other volume's live tree becomes what this one is, and this one becomes"
             + " all holes");
         everyFile();
@@ -14,6 +16,19 @@ public final class Promise06MoveTest {
         Due.sentence(Due.EVERY_CALL);
         wrongInputs();
         Due.end();
+    }
+
+    /** Out of either volume, and only the file that is named. */
+    private static void bothWays() {
+        CowContainer x = new CowContainer(4);
+        x.write(0, 1, 2, 5);
+        x.write(1, 2, 1, 6);
+        Due.same("move out of volume 0", x.move(0, 1), 1);
+        Due.same("move out of volume 1", x.move(1, 2), 1);
+        Due.file("file 1 of volume 0", x, 0, 1, HOLE, HOLE, HOLE, HOLE);
+        Due.file("file 1 of volume 1", x, 1, 1, HOLE, HOLE, 5, HOLE);
+        Due.file("file 2 of volume 0", x, 0, 2, HOLE, 6, HOLE, HOLE);
+        Due.file("file 2 of volume 1", x, 1, 2, HOLE, HOLE, HOLE, HOLE);
     }
 
     private static void everyFile() {

@@ -1,7 +1,7 @@
 import java.util.Map;
 import java.util.function.Supplier;
 
-/** The sentences of "What it is" and "Terms" that name a boundary case, each with its test. */
+/** The sentences of "Terms", and that on an object's 512 calls, each with its test. */
 public final class TermsTest {
     private static final int REFUSED = CowContainer.REFUSED;
     private static final int FULL = CowContainer.FULL;
@@ -26,6 +26,8 @@ public final class TermsTest {
         emptyStates();
         Due.sentence("Besides there are at most two CHECKPOINTS");
         atMostTwo();
+        Due.sentence("each a number and a state: the NEWEST and the PREVIOUS one");
+        numberAndState();
         Due.sentence("A block is IN USE if some place holds it in the state or in the state of one of the"
             + " (one or two) checkpoints.");
         eachHolderAlone();
@@ -33,6 +35,8 @@ public final class TermsTest {
         atMostBlocks();
         Due.sentence("a block that isn't is gone");
         goneAndRoomAgain();
+        Due.sentence("The container is UP or DOWN.");
+        upOrDown();
         Due.sentence("DOWN there is no state, only checkpoints.");
         noStateWhenDown();
         Due.sentence("Every call first: a volume, file, place, tree or length out of its range answers REFUSED.");
@@ -192,6 +196,37 @@ public final class TermsTest {
         Due.same("there is no third", x.damage(0), CowContainer.MISSING);
     }
 
+    /** A number goes with its own state, also where a number has been used before. */
+    private static void numberAndState() {
+        CowContainer x = new CowContainer(8);
+        syncValue(x, 10, 1);
+        syncValue(x, 20, 2);
+        syncValue(x, 30, 3);
+        x.crash();
+        mountValue("the newest", x, 3, 30);
+        x.crash();
+        x.damage(0);
+        mountValue("the previous one", x, 2, 20);
+        syncValue(x, 31, 3);
+        x.crash();
+        mountValue("another with the number 3", x, 3, 31);
+        x.crash();
+        x.damage(0);
+        mountValue("the one before it", x, 2, 20);
+    }
+
+    private static void syncValue(CowContainer x, int value, int number) {
+        x.write(1, 1, 1, value);
+        Due.same("sync(0) of " + value, x.sync(0), number);
+        Due.same("info(2) after it", x.info(2), number);
+    }
+
+    private static void mountValue(String which, CowContainer x, int number, int value) {
+        Due.same("mount() of " + which, x.mount(), number);
+        Due.same("the number of " + which, x.info(2), number);
+        Due.same("the state of " + which, x.read(1, 0, 1, 1), value);
+    }
+
     /** Each of the six trees, in the state, in the newest and in the previous checkpoint. */
     private static void eachHolderAlone() {
         for (int i = 0; i < 18; i++) {
@@ -252,6 +287,24 @@ public final class TermsTest {
         x.mount();
         Due.same("the lost state's blocks are gone", x.used(), 0);
         Due.same("and leave all room", x.write(0, 0, 0, 8), 1);
+    }
+
+    /** One of crash and mount is always refused, and the other never. */
+    private static void upOrDown() {
+        for (Map.Entry<String, Supplier<CowContainer>> one : Twins.whenUp().entrySet()) {
+            CowContainer x = one.getValue().get();
+            Due.same("info(0) when " + one.getKey(), x.info(0), 1);
+            Due.same("mount() when " + one.getKey(), x.mount(), REFUSED);
+            Due.same("crash() when " + one.getKey(), x.crash(), 0);
+            Due.same("info(0) then", x.info(0), 0);
+        }
+        for (Map.Entry<String, Supplier<CowContainer>> one : Twins.whenDown().entrySet()) {
+            CowContainer x = one.getValue().get();
+            Due.same("info(0) when " + one.getKey(), x.info(0), 0);
+            Due.same("crash() when " + one.getKey(), x.crash(), REFUSED);
+            Due.same("mount() when " + one.getKey(), x.mount(), x.info(2));
+            Due.same("info(0) then", x.info(0), 1);
+        }
     }
 
     private static void noStateWhenDown() {
